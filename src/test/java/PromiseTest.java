@@ -277,6 +277,9 @@ public final class PromiseTest {
         due.is("10: fewer", x.breakers(), 2);
         x.keep(3, 1);
         due.is("10: none", x.breakers(), 0);
+        FeedbackBreaker y = new FeedbackBreaker(9);
+        for (int v = 0; v < 9; v++) y.link(v, v, 1);
+        due.is("10: the full set alone", y.breakers(), 1);
     }
 
     private static void promise11InBreakers() {
@@ -360,6 +363,8 @@ public final class PromiseTest {
         due.is("14: one edge", y.girth(), 0);
         y.link(0, 1, 2);
         due.is("14: n is 2", y.girth(), 2);
+        y.link(0, 0, 1);
+        due.is("14: to itself at 0", y.girth(), 1);
     }
 
     private static void promise15Excess() {
