@@ -1,6 +1,7 @@
 /**
  * The document's terms taken word for word, as slow as that may be: it lists the vertex sets of
- * all cycles and looks at every set of vertices. It shares no way of working with the program.
+ * all cycles, where the program grows forests. Only excess() counts by a formula, as trying every
+ * way to take edges away is too slow beyond 3 vertices; up to there excessByTrying() does that.
  */
 final class Model {
     final int n;
