@@ -4,8 +4,12 @@ final class Due {
     private int wrong = 0;
 
     void is(String call, long got, long want) {
+        same(call, Long.toString(got), Long.toString(want));
+    }
+
+    void same(String call, String got, String want) {
         asked++;
-        if (got != want) {
+        if (!got.equals(want)) {
             wrong++;
             System.out.println(call + " answered " + got + ", due is " + want);
         }

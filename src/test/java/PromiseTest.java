@@ -22,37 +22,7 @@ public final class PromiseTest {
         promise13LeastWithout();
         promise14Girth();
         promise15Excess();
-        questionsChangeNothing();
-        refusedCallsChangeNothing();
-        objectsAreApart();
-        lastPromisedCall();
         due.exit();
-    }
-
-    private static FeedbackBreaker cycleOf(int n) {
-        FeedbackBreaker x = new FeedbackBreaker(n);
-        x.ring(0, 1, n);
-        return x;
-    }
-
-    private static FeedbackBreaker completeOf(int n) {
-        FeedbackBreaker x = new FeedbackBreaker(n);
-        for (int u = 0; u < n; u++) {
-            for (int v = 0; v < u; v++) x.link(u, v, 1);
-        }
-        return x;
-    }
-
-    /** Triangles 0 1 2 and 2 3 4, which share vertex 2. */
-    private static FeedbackBreaker bowTie() {
-        FeedbackBreaker x = new FeedbackBreaker(5);
-        x.link(0, 1, 1);
-        x.link(1, 2, 1);
-        x.link(2, 0, 1);
-        x.link(2, 3, 1);
-        x.link(3, 4, 1);
-        x.link(4, 2, 1);
-        return x;
     }
 
     private static void promise1NewObject() {
@@ -157,7 +127,7 @@ public final class PromiseTest {
     }
 
     private static void promise5Keep() {
-        FeedbackBreaker x = cycleOf(3);
+        FeedbackBreaker x = Graphs.cycleOf(3);
         due.is("5: first", x.keep(0, 1), 0);
         due.is("5: again", x.keep(0, -7), 1);
         due.is("5: free", x.keep(0, 0), 1);
@@ -198,7 +168,7 @@ public final class PromiseTest {
     }
 
     private static void promise7Breaks() {
-        FeedbackBreaker x = bowTie();
+        FeedbackBreaker x = Graphs.bowTie();
         due.is("7: nothing", x.breaks(0), 0);
         due.is("7: the middle", x.breaks(4), 1);
         due.is("7: one side", x.breaks(1), 0);
@@ -227,9 +197,9 @@ public final class PromiseTest {
 
     private static void promise8Least() {
         due.is("8: no cycle", new FeedbackBreaker(9).least(), 0);
-        due.is("8: one cycle", cycleOf(9).least(), 1);
-        for (int n = 3; n <= 9; n++) due.is("8: complete " + n, completeOf(n).least(), n - 2);
-        FeedbackBreaker x = bowTie();
+        due.is("8: one cycle", Graphs.cycleOf(9).least(), 1);
+        for (int n = 3; n <= 9; n++) due.is("8: complete " + n, Graphs.completeOf(n).least(), n - 2);
+        FeedbackBreaker x = Graphs.bowTie();
         due.is("8: bow tie", x.least(), 1);
         x.keep(2, 1);
         due.is("8: bow tie without its middle", x.least(), 2);
@@ -248,7 +218,7 @@ public final class PromiseTest {
 
     private static void promise9First() {
         due.is("9: no cycle", new FeedbackBreaker(9).first(), 0);
-        FeedbackBreaker x = bowTie();
+        FeedbackBreaker x = Graphs.bowTie();
         due.is("9: fewest before least number", x.first(), 4);
         x.keep(2, 1);
         due.is("9: least number", x.first(), 1 | 8);
@@ -267,9 +237,9 @@ public final class PromiseTest {
 
     private static void promise10Breakers() {
         due.is("10: no cycle", new FeedbackBreaker(9).breakers(), 1);
-        due.is("10: one cycle", cycleOf(9).breakers(), 9);
-        due.is("10: complete 9", completeOf(9).breakers(), 36);
-        FeedbackBreaker x = bowTie();
+        due.is("10: one cycle", Graphs.cycleOf(9).breakers(), 9);
+        due.is("10: complete 9", Graphs.completeOf(9).breakers(), 36);
+        FeedbackBreaker x = Graphs.bowTie();
         due.is("10: bow tie", x.breakers(), 1);
         x.keep(2, 1);
         due.is("10: bow tie without its middle", x.breakers(), 4);
@@ -283,7 +253,7 @@ public final class PromiseTest {
     }
 
     private static void promise11InBreakers() {
-        FeedbackBreaker x = bowTie();
+        FeedbackBreaker x = Graphs.bowTie();
         due.is("11: the middle", x.inBreakers(2), 1);
         due.is("11: a side", x.inBreakers(0), 0);
         x.keep(2, 1);
@@ -294,14 +264,14 @@ public final class PromiseTest {
         for (int v = 0; v < 5; v++) due.is("11: no breaker", x.inBreakers(v), 0);
         int[] bad = {-1, 5, 9, 32, LOW, HIGH};
         for (int v : bad) due.is("11: bad v", x.inBreakers(v), -1);
-        FeedbackBreaker y = completeOf(9);
+        FeedbackBreaker y = Graphs.completeOf(9);
         for (int v = 0; v < 9; v++) due.is("11: complete 9", y.inBreakers(v), 28);
         FeedbackBreaker z = new FeedbackBreaker(2);
         due.is("11: the empty breaker", z.inBreakers(0), 0);
     }
 
     private static void promise12LeastWith() {
-        FeedbackBreaker x = bowTie();
+        FeedbackBreaker x = Graphs.bowTie();
         due.is("12: the middle", x.leastWith(2), 1);
         due.is("12: a side", x.leastWith(4), 2);
         x.keep(2, 1);
@@ -320,7 +290,7 @@ public final class PromiseTest {
     }
 
     private static void promise13LeastWithout() {
-        FeedbackBreaker x = bowTie();
+        FeedbackBreaker x = Graphs.bowTie();
         due.is("13: the middle", x.leastWithout(2), 2);
         due.is("13: a side", x.leastWithout(0), 1);
         x.keep(2, 1);
@@ -344,8 +314,8 @@ public final class PromiseTest {
         FeedbackBreaker path = new FeedbackBreaker(9);
         path.ring(0, 1, 8);
         due.is("14: a path", path.girth(), 0);
-        for (int n = 3; n <= 9; n++) due.is("14: cycle " + n, cycleOf(n).girth(), n);
-        FeedbackBreaker x = cycleOf(9);
+        for (int n = 3; n <= 9; n++) due.is("14: cycle " + n, Graphs.cycleOf(n).girth(), n);
+        FeedbackBreaker x = Graphs.cycleOf(9);
         x.link(0, 4, 1);
         due.is("14: a chord", x.girth(), 5);
         x.link(0, 3, 1);
@@ -369,9 +339,9 @@ public final class PromiseTest {
 
     private static void promise15Excess() {
         due.is("15: no edge", new FeedbackBreaker(9).excess(), 0);
-        due.is("15: one cycle", cycleOf(9).excess(), 1);
-        due.is("15: complete 9", completeOf(9).excess(), 28);
-        FeedbackBreaker x = bowTie();
+        due.is("15: one cycle", Graphs.cycleOf(9).excess(), 1);
+        due.is("15: complete 9", Graphs.completeOf(9).excess(), 28);
+        FeedbackBreaker x = Graphs.bowTie();
         due.is("15: bow tie", x.excess(), 2);
         x.link(0, 0, 2);
         due.is("15: to itself twice", x.excess(), 4);
@@ -386,55 +356,5 @@ public final class PromiseTest {
         y.link(1, 0, 2);
         y.link(8, 7, 2);
         due.is("15: a cycle in each part", y.excess(), 2);
-    }
-
-    private static void questionsChangeNothing() {
-        FeedbackBreaker x = bowTie();
-        Model model = new Model(5);
-        model.ring(0, 1, 2);
-        model.link(0, 2, 1);
-        model.ring(2, 1, 2);
-        model.link(4, 2, 1);
-        x.keep(2, 1);
-        model.keep(2, 1);
-        for (int round = 0; round < 3; round++) {
-            model.compare(due, "questions, round " + round + ":", x);
-            for (int set = -1; set <= 32; set++) x.breaks(set);
-        }
-    }
-
-    private static void refusedCallsChangeNothing() {
-        FeedbackBreaker x = cycleOf(4);
-        Model model = new Model(4);
-        model.ring(0, 1, 4);
-        x.link(4, 0, 2);
-        x.link(0, 4, 2);
-        x.link(0, 2, 3);
-        x.link(0, 1, -1);
-        x.ring(4, 1, 1);
-        x.ring(-1, 1, 1);
-        x.ring(0, 9, 1);
-        x.ring(0, 0, 1);
-        x.ring(0, 2, 13);
-        x.ring(0, 2, 0);
-        x.keep(4, 1);
-        x.keep(-1, 1);
-        x.keep(32, 1);
-        model.compare(due, "refused calls:", x);
-    }
-
-    private static void objectsAreApart() {
-        FeedbackBreaker x = cycleOf(4);
-        FeedbackBreaker y = new FeedbackBreaker(4);
-        y.keep(0, 1);
-        due.is("apart: edges", y.edges(), 0);
-        due.is("apart: kept", x.keep(0, 1), 0);
-    }
-
-    private static void lastPromisedCall() {
-        FeedbackBreaker x = new FeedbackBreaker(9);
-        for (int call = 1; call < 511; call++) x.link(call % 9, call % 7, call % 3);
-        x.link(3, 3, 2);
-        due.is("call 512", x.link(3, 3, 0), 2);
     }
 }
