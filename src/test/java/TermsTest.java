@@ -24,6 +24,7 @@ public final class TermsTest {
             vertexIsGoodUpToTheLast(n);
             refusedCallsAnswerAsDue(n);
             refusedCallsChangeNothing(n);
+            refusedCallsSwayNoQuestion(n);
             questionsChangeNothing(n);
         }
         breakerHasFewestMembersAmongAllowedSets();
@@ -215,6 +216,21 @@ public final class TermsTest {
     /** "A refused call changes nothing." */
     private static void refusedCallsChangeNothing(int n) {
         leaveTheStateAsItWas(n, Call.refused(n));
+    }
+
+    /** "A refused call changes nothing.": nor what a question answers after it. */
+    private static void refusedCallsSwayNoQuestion(int n) {
+        List<Call> calls = Call.refused(n);
+        // The calls that make the graph and the questions after them belong to the 512 too.
+        int atOnce = CALLS - 100;
+        for (int kind = 0; kind < Graphs.KINDS; kind++) {
+            for (int from = 0; from < calls.size(); from += atOnce) {
+                FeedbackBreaker x = Graphs.start(kind, n);
+                int to = Math.min(from + atOnce, calls.size());
+                for (Call call : calls.subList(from, to)) call.ask(x);
+                Graphs.modelOf(kind, n).compare(due, n + " kind " + kind + " after refused calls:", x);
+            }
+        }
     }
 
     /** "No question changes anything." */
