@@ -1,7 +1,7 @@
 /**
  * The document's terms taken word for word, as slow as that may be: it lists the vertex sets of
  * all cycles, where the program grows forests. Only excess() counts by a formula, as trying every
- * way to take edges away is too slow beyond 3 vertices; up to there excessByTrying() does that.
+ * way to take edges away is too slow beyond 4 vertices; up to there ModelTest does that.
  */
 final class Model {
     final int n;
@@ -128,27 +128,6 @@ final class Model {
             if (lowest) parts++;
         }
         return edges() - (n - parts);
-    }
-
-    /** The same by trying every way to take edges away: for very small graphs alone. */
-    int excessByTrying() {
-        int ways = 1;
-        for (int i = 0; i < n * (n + 1) / 2; i++) ways *= 3;
-        int fewest = edges();
-        for (int way = 0; way < ways; way++) {
-            Model rest = new Model(n);
-            int digits = way;
-            boolean part = true;
-            for (int u = 0; u < n; u++) {
-                for (int v = 0; v <= u; v++) {
-                    rest.link(u, v, digits % 3);
-                    part &= digits % 3 <= many[u][v];
-                    digits /= 3;
-                }
-            }
-            if (part && rest.girth() == 0) fewest = Math.min(fewest, edges() - rest.edges());
-        }
-        return fewest;
     }
 
     /** The answers of all questions about breakers and cycles, compared with those of x. */

@@ -1,4 +1,4 @@
-/** The program beside the model: on every graph of 2 or 3 vertices, and on long mixed runs. */
+/** The program beside the model: on every graph of 2, 3 or 4 vertices, and on long mixed runs. */
 public final class ModelTest {
     // The document promises nothing after this many calls on one object.
     private static final int CALLS = 512;
@@ -7,7 +7,7 @@ public final class ModelTest {
     private static long seed = 1;
 
     public static void main(String[] args) {
-        for (int n = 2; n <= 3; n++) everyGraph(n);
+        for (int n = 2; n <= 4; n++) everyGraph(n);
         for (int n = 2; n <= 9; n++) {
             for (int run = 0; run < 40; run++) mixedRun(n, run);
             for (int run = 0; run < 20; run++) breaksOfEverySet(n, run);
@@ -15,27 +15,60 @@ public final class ModelTest {
         due.exit();
     }
 
+    /** A graph's number has a digit of 0, 1 or 2 for each pair. */
     private static void everyGraph(int n) {
-        int pairs = n * (n + 1) / 2;
-        for (int graph = 0; graph < Math.round(Math.pow(3, pairs)); graph++) {
-            for (int kept = 0; kept < 1 << n; kept++) {
+        int graphs = 1;
+        for (int pair = 0; pair < n * (n + 1) / 2; pair++) graphs *= 3;
+        int[] excess = new int[graphs];
+        for (int graph = 0; graph < graphs; graph++) {
+            excess[graph] = excessByTakingAway(n, graph, excess);
+            // With 4 vertices every kept set of every graph takes too long, so the graph says which.
+            int from = n < 4 ? 0 : graph % (1 << n);
+            int to = n < 4 ? 1 << n : from + 1;
+            for (int kept = from; kept < to; kept++) {
                 FeedbackBreaker x = new FeedbackBreaker(n);
-                Model model = new Model(n);
-                int digits = graph;
                 for (int u = 0; u < n; u++) {
-                    for (int v = 0; v <= u; v++) {
-                        x.link(u, v, digits % 3);
-                        model.link(u, v, digits % 3);
-                        digits /= 3;
-                    }
+                    for (int v = 0; v <= u; v++) x.link(u, v, digit(graph, u, v));
                     x.keep(u, kept >> u & 1);
-                    model.keep(u, kept >> u & 1);
                 }
+                Model model = modelOf(n, graph);
+                for (int v = 0; v < n; v++) model.keep(v, kept >> v & 1);
                 String where = "n " + n + " graph " + graph + " kept " + kept + ":";
                 model.compare(due, where, x);
-                if (kept == 0) due.is(where + " excess()", x.excess(), model.excessByTrying());
+                due.is(where + " excess()", x.excess(), excess[graph]);
             }
         }
+    }
+
+    /** "How many edges must be taken away at least": none, or one and then those of the best rest. */
+    private static int excessByTakingAway(int n, int graph, int[] excessOfSmaller) {
+        if (modelOf(n, graph).girth() == 0) return 0;
+        int best = Integer.MAX_VALUE;
+        for (int u = 0; u < n; u++) {
+            for (int v = 0; v <= u; v++) {
+                if (digit(graph, u, v) > 0) best = Math.min(best, excessOfSmaller[graph - place(u, v)]);
+            }
+        }
+        return best + 1;
+    }
+
+    private static Model modelOf(int n, int graph) {
+        Model model = new Model(n);
+        for (int u = 0; u < n; u++) {
+            for (int v = 0; v <= u; v++) model.link(u, v, digit(graph, u, v));
+        }
+        return model;
+    }
+
+    private static int digit(int graph, int u, int v) {
+        return graph / place(u, v) % 3;
+    }
+
+    /** What one edge between u and v, or from u to itself, adds to the number of a graph; v <= u. */
+    private static int place(int u, int v) {
+        int place = 1;
+        for (int pair = 0; pair < u * (u + 1) / 2 + v; pair++) place *= 3;
+        return place;
     }
 
     /** Changes, good and refused ones, each followed by all questions, for as long as is promised. */
